@@ -370,8 +370,9 @@ public final class RoundWalks {
             System.arraycopy(other.to, 0, to, 0, MOST_ARCS);
         }
 
+        /** The one way by which arcs come in, so both ends of all arcs are points. */
         void append(int start, int goal) {
-            if (arcs < MOST_ARCS) {
+            if (arcs < MOST_ARCS && hasPoint(start) && hasPoint(goal)) {
                 from[arcs] = start;
                 to[arcs] = goal;
                 arcs++;
@@ -379,6 +380,9 @@ public final class RoundWalks {
         }
 
         void remove(int k) {
+            if (!hasArc(k)) {
+                return;
+            }
             for (int i = k; i + 1 < arcs; i++) {
                 from[i] = from[i + 1];
                 to[i] = to[i + 1];
@@ -387,6 +391,9 @@ public final class RoundWalks {
         }
 
         void flip(int k) {
+            if (!hasArc(k)) {
+                return;
+            }
             int start = from[k];
             from[k] = to[k];
             to[k] = start;
@@ -394,11 +401,11 @@ public final class RoundWalks {
 
         /** Arcs are rows of signs; rows tells how many rows there are of one sign less. */
         void weave(int signs, int rows) {
-            points = rows;
-            arcs = 0;
-            if (signs < 1 || rows < 1) {
+            if (signs < 1 || rows < 1 || rows > MOST_POINTS) {
                 return;
             }
+            points = rows;
+            arcs = 0;
             for (int row = 0; row < rows * signs; row++) {
                 append(row / signs, row % rows);
             }
@@ -870,6 +877,7 @@ public final class RoundWalks {
         private final int[] path = new int[MOST_ARCS];
         private final int[] lastArc = new int[MOST_POINTS];
         private final int[] seen = new int[MOST_ARCS];
+        private long rankLeft = 0;
         private int seenLength = 0;
         private int seenLasts = NONE;
 
@@ -905,31 +913,39 @@ public final class RoundWalks {
             int goal = net.finish(shape);
             int here = net.start(shape);
             int free = (1 << net.arcs) - 1;
-            long left = rank;
+            rankLeft = rank;
             counter.load(net, free);
             for (int i = 0; i < net.arcs; i++) {
-                int chosen = NONE;
-                for (int k = 0; k < net.arcs && chosen == NONE; k++) {
-                    if (!inSet(free, k) || net.from[k] != here) {
-                        continue;
-                    }
-                    counter.shift(here, net.to[k], -1);
-                    long many = counter.trailsTo(goal);
-                    if (left < many) {
-                        chosen = k;
-                    } else {
-                        left -= many;
-                        counter.shift(here, net.to[k], 1);
-                    }
-                }
-                if (chosen == NONE) {
+                int k = chooseNext(net, here, free, goal);
+                if (k == NONE) {
                     return false;
                 }
-                path[i] = chosen;
-                free &= ~(1 << chosen);
-                here = net.to[chosen];
+                path[i] = k;
+                free &= ~(1 << k);
+                here = net.to[k];
             }
             return true;
+        }
+
+        /** The arc with which the walk of the rank that is left goes on; it is taken from the counter. */
+        private int chooseNext(Net net, int here, int free, int goal) {
+            for (int k = 0; k < net.arcs; k++) {
+                if (!inSet(free, k) || net.from[k] != here) {
+                    continue;
+                }
+                counter.shift(here, net.to[k], -1);
+                // All walks that are left go by an only arc: no need to count them.
+                if (counter.outs[here] == 0) {
+                    return k;
+                }
+                long many = counter.trailsTo(goal);
+                if (rankLeft < many) {
+                    return k;
+                }
+                rankLeft -= many;
+                counter.shift(here, net.to[k], 1);
+            }
+            return NONE;
         }
 
         private void lookAtPath(Net net, int goal) {
@@ -1144,10 +1160,9 @@ public final class RoundWalks {
             }
         }
 
-        /** How many of those alike stand ahead of the told word. */
+        /** How many of those alike stand ahead of the told word; it must be loaded. */
         private long countAhead() {
             long ahead = 0;
-            loadTold();
             for (int i = 0; i + 1 < toldLength; i++) {
                 int here = told[i];
                 for (int q = 0; q < told[i + 1]; q++) {
