@@ -701,6 +701,11 @@ public final class EdgeTest {
             int set = ((k & 1) == 0 ? 1 : 8) + ((k & 2) == 0 ? 2 : 16) + ((k & 4) == 0 ? 4 : 32);
             check.due("in order, ARCS by turns: " + k, mixed.tree(0, k), set);
         }
+        RoundWalks around = Check.make(4, "ba ca da ca da ba");
+        for (int k = 0; k < 8; k++) {
+            int set = ((k & 1) == 0 ? 2 : 8) + ((k & 2) == 0 ? 4 : 16) + ((k & 4) == 0 ? 1 : 32);
+            check.due("in order, ARCS around others: " + k, around.tree(0, k), set);
+        }
         for (int k : new int[] {128, 129, -1, LOW, HIGH}) {
             check.throwsNone("tree " + k, () -> x.tree(0, k));
         }
