@@ -1,7 +1,9 @@
 import java.util.Random;
 
-/** again(), righted(), lack() on many larger nets, where a way that was taken first must be given back. */
+/** again(), righted() on many larger nets, where a way that was taken first must be given back; lack() on lopsided ones. */
 public final class FlowTest {
+    private static final int MOST_TRIED = 6;
+
     public static void main(String[] args) {
         Check check = new Check();
         fixed(check);
@@ -18,7 +20,40 @@ public final class FlowTest {
                 check.due("righted", x.righted(1), m.righted(1));
             }
         }
+        lacks(check);
         check.close();
+    }
+
+    /** Few points, most arcs from the first ones to the last ones: many arcs are lacking. */
+    private static void lacks(Check check) {
+        Random chance = new Random(27);
+        int[] seen = new int[MOST_TRIED + 1];
+        for (int i = 0; i < 3000 && !check.failed(); i++) {
+            int points = 2 + chance.nextInt(3);
+            int arcs = 1 + chance.nextInt(9);
+            StringBuilder pairs = new StringBuilder();
+            for (int k = 0; k < arcs; k++) {
+                int p = chance.nextInt(points);
+                int q = chance.nextInt(10) == 0 ? p : (p + 1 + chance.nextInt(points - 1)) % points;
+                boolean along = p <= q || chance.nextInt(8) == 0;
+                pairs.append((char) ('a' + (along ? p : q))).append((char) ('a' + (along ? q : p))).append(' ');
+            }
+            String text = Check.text(points, pairs.toString());
+            RoundWalks x = new RoundWalks();
+            Model m = new Model();
+            check.part(text);
+            Check.net(x, text);
+            tell(m, text);
+            int lack = x.lack();
+            check.due("lack", lack, m.lack());
+            if (lack >= 0 && lack <= MOST_TRIED && m.triesAll(lack)) {
+                seen[lack]++;
+            }
+        }
+        check.part("lack");
+        for (int many = 0; many <= MOST_TRIED; many++) {
+            check.due(many + " arcs, all tried, came often", seen[many] >= 10, true);
+        }
     }
 
     private static void fixed(Check check) {

@@ -9,7 +9,7 @@ import java.util.NoSuchElementException;
 import java.util.TreeMap;
 import java.util.TreeSet;
 
-/** The document said again as plainly as can be, by trying all there is: slow, and without the class's formulas. */
+/** The document said again as plainly as can be, by trying all there is: slow, and without the class's formulas (but for lack() of many arcs). */
 final class Model {
     private String tape = "";
     private int points = 0;
@@ -633,17 +633,22 @@ final class Model {
         if (arcs.isEmpty() || !connected(true)) {
             return -1;
         }
-        for (int fewest = 0; fewest <= 2; fewest++) {
+        for (int fewest = 0; triesAll(fewest); fewest++) {
             if (walksWith(fewest)) {
                 return fewest;
             }
         }
-        // Three and more are not tried one by one: each arc levels one way in and one way out.
+        // The rest would be too many to try one by one: each arc levels one way in and one way out.
         int more = 0;
         for (int p = 0; p < points; p++) {
             more += Math.abs(out(p) - in(p));
         }
         return more / 2 - 1;
+    }
+
+    /** Whether there are so few ways to add so many arcs that lack() tries them all. */
+    boolean triesAll(int more) {
+        return more <= 6 && Math.pow(points * points, more) <= 5000;
     }
 
     /** Tries all arcs that can be added, so many times. */
